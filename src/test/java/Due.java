@@ -1,8 +1,14 @@
 /** Holds answers against those that are due, and ends the test with exit code 1 if one was wrong. */
 final class Due {
     private static final int MOST_PRINTED = 50;
+    private String sentence = "";
     private int looked = 0;
     private int wrong = 0;
+
+    /** The answers from here on stand for these words of the document; a wrong one is told with them. */
+    void sentence(String words) {
+        sentence = " (" + words + ")";
+    }
 
     void is(String call, int got, int want) {
         looked++;
@@ -12,7 +18,7 @@ final class Due {
         wrong++;
         // A broken class would otherwise flood the log from the tests that compare by the million.
         if (wrong <= MOST_PRINTED) {
-            System.out.println(call + " answered " + got + ", due is " + want);
+            System.out.println(call + " answered " + got + ", due is " + want + sentence);
         }
     }
 
@@ -32,6 +38,14 @@ final class Due {
         }
         is("holds(" + want.length + ")", x.holds(want.length), RealSigns.NONE);
         is("holds(-1)", x.holds(-1), RealSigns.NONE);
+    }
+
+    /** Asks the four questions about the topmost formula that take no argument. */
+    void about(RealSigns x, int some, int every, int pieces, int points) {
+        is("some()", x.some(), some);
+        is("every()", x.every(), every);
+        is("pieces()", x.pieces(), pieces);
+        is("points()", x.points(), points);
     }
 
     void end() {

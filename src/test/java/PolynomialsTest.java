@@ -1,39 +1,16 @@
-/** Promises 1 to 6: a new object, set, marks, sign, cellOf, zeros. */
+/** Promises 2 to 6 on ordinary inputs: set, marks, sign, cellOf, zeros. PolynomialEdgesTest has the edges. */
 public final class PolynomialsTest {
-    private static final int BAD_ARG = RealSigns.BAD_ARG;
-    private static final int NONE = RealSigns.NONE;
-    private static final int[] WILD = {Integer.MIN_VALUE, -1, 4, 5, Integer.MAX_VALUE};
-    private static final int[] BEYOND = {Integer.MIN_VALUE, -31, 31, Integer.MAX_VALUE};
-
     private final Due due = new Due();
 
     public static void main(String[] args) {
         PolynomialsTest test = new PolynomialsTest();
-        test.promise1NewObject();
         test.promise2Set();
-        test.promise2SetRefused();
         test.promise3Marks();
         test.promise4Sign();
         test.promise4DoubleZeros();
-        test.promise4Refused();
         test.promise5CellOf();
-        test.promise5Refused();
         test.promise6Zeros();
         test.due.end();
-    }
-
-    private void promise1NewObject() {
-        RealSigns x = new RealSigns();
-        due.is("marks()", x.marks(), 0);
-        for (int k = 0; k < 4; k++) {
-            due.signs(x, k, 0);
-            due.is("zeros(" + k + ")", x.zeros(k), 0);
-        }
-        due.is("cellOf(3, 7)", x.cellOf(3, 7), 0);
-        due.is("some()", x.some(), RealSigns.TOO_FEW);
-        due.is("not()", x.not(), RealSigns.TOO_FEW);
-        due.is("discard()", x.discard(), 0);
-        due.is("condition(0, 2)", x.condition(0, 2), 1);
     }
 
     private void promise2Set() {
@@ -54,23 +31,6 @@ public final class PolynomialsTest {
         due.is("set(3, 0, 0, -1)", x.set(3, 0, 0, -1), 0);
         due.is("marks() after the zeros went", x.marks(), 0);
         due.signs(x, 3, -1);
-    }
-
-    private void promise2SetRefused() {
-        RealSigns x = new RealSigns();
-        x.set(0, 1, -3, 2);
-        for (int k : WILD) {
-            due.is("set(" + k + ", 1, 1, 1)", x.set(k, 1, 1, 1), BAD_ARG);
-        }
-        for (int v : BEYOND) {
-            due.is("set(0, " + v + ", 5, 5)", x.set(0, v, 5, 5), BAD_ARG);
-            due.is("set(0, 5, " + v + ", 5)", x.set(0, 5, v, 5), BAD_ARG);
-            due.is("set(0, 5, 5, " + v + ")", x.set(0, 5, 5, v), BAD_ARG);
-        }
-        due.is("marks() after refused sets", x.marks(), 2);
-        due.signs(x, 0, 1, 0, -1, 0, 1);
-        due.is("cellOf(1, 1) after refused sets", x.cellOf(1, 1), 1);
-        due.is("cellOf(2, 1) after refused sets", x.cellOf(2, 1), 3);
     }
 
     private void promise3Marks() {
@@ -128,19 +88,6 @@ public final class PolynomialsTest {
         due.signs(x, 3, 1, 1, 1, 0, 1, 1, 1);
     }
 
-    private void promise4Refused() {
-        RealSigns x = new RealSigns();
-        x.set(1, 0, 1, 0);
-        for (int k : WILD) {
-            due.is("sign(" + k + ", 0)", x.sign(k, 0), BAD_ARG);
-            due.is("sign(" + k + ", 99): BAD_ARG is first", x.sign(k, 99), BAD_ARG);
-        }
-        due.is("sign(1, MIN)", x.sign(1, Integer.MIN_VALUE), NONE);
-        due.is("sign(1, MAX)", x.sign(1, Integer.MAX_VALUE), NONE);
-        due.is("sign(1, 3)", x.sign(1, 3), NONE);
-        due.is("sign(1, 2)", x.sign(1, 2), 1);
-    }
-
     private void promise5CellOf() {
         RealSigns x = new RealSigns();
         x.set(0, 1, 0, -2);
@@ -163,17 +110,6 @@ public final class PolynomialsTest {
         due.is("cellOf(0, 17)", x.cellOf(0, 17), 2);
     }
 
-    private void promise5Refused() {
-        RealSigns x = new RealSigns();
-        x.set(0, 0, 1, 0);
-        for (int p : new int[] {Integer.MIN_VALUE, -101, 101, Integer.MAX_VALUE}) {
-            due.is("cellOf(" + p + ", 1)", x.cellOf(p, 1), BAD_ARG);
-        }
-        for (int q : new int[] {Integer.MIN_VALUE, -1, 0, 101, Integer.MAX_VALUE}) {
-            due.is("cellOf(1, " + q + ")", x.cellOf(1, q), BAD_ARG);
-        }
-    }
-
     private void promise6Zeros() {
         RealSigns x = new RealSigns();
         x.set(0, 1, 0, -2);
@@ -188,8 +124,5 @@ public final class PolynomialsTest {
         due.is("zeros(3) of a constant", x.zeros(3), 0);
         x.set(3, 1, 1, 1);
         due.is("zeros(3) of x x + x + 1", x.zeros(3), 0);
-        for (int k : WILD) {
-            due.is("zeros(" + k + ")", x.zeros(k), BAD_ARG);
-        }
     }
 }

@@ -1,14 +1,9 @@
-/** Promises 11 to 18: some, every, pieces, points, holds, at, same, implies. */
+/** Promises 11 to 18 on ordinary inputs: the questions about formulas. QuestionEdgesTest has the edges. */
 public final class QuestionsTest {
-    private static final int BAD_ARG = RealSigns.BAD_ARG;
-    private static final int TOO_FEW = RealSigns.TOO_FEW;
-    private static final int NONE = RealSigns.NONE;
-
     private final Due due = new Due();
 
     public static void main(String[] args) {
         QuestionsTest test = new QuestionsTest();
-        test.emptyStack();
         test.promise11And12SomeAndEvery();
         test.promise13And14PiecesAndPoints();
         test.wholeLine();
@@ -22,50 +17,24 @@ public final class QuestionsTest {
         test.due.end();
     }
 
-    private void emptyStack() {
-        RealSigns x = new RealSigns();
-        due.is("some()", x.some(), TOO_FEW);
-        due.is("every()", x.every(), TOO_FEW);
-        due.is("pieces()", x.pieces(), TOO_FEW);
-        due.is("points()", x.points(), TOO_FEW);
-        due.is("holds(0)", x.holds(0), TOO_FEW);
-        due.is("holds(-1): TOO_FEW is before NONE", x.holds(-1), TOO_FEW);
-        due.is("holds(9): TOO_FEW is before NONE", x.holds(9), TOO_FEW);
-        due.is("at(0, 1)", x.at(0, 1), TOO_FEW);
-        due.is("at(0, 0): TOO_FEW is before BAD_ARG", x.at(0, 0), TOO_FEW);
-        due.is("at(101, 1): TOO_FEW is before BAD_ARG", x.at(101, 1), TOO_FEW);
-        due.is("same()", x.same(), TOO_FEW);
-        due.is("implies()", x.implies(), TOO_FEW);
-        x.condition(0, 2);
-        due.is("same() of one", x.same(), TOO_FEW);
-        due.is("implies() of one", x.implies(), TOO_FEW);
-    }
-
-    private void about(RealSigns x, int some, int every, int pieces, int points) {
-        due.is("some()", x.some(), some);
-        due.is("every()", x.every(), every);
-        due.is("pieces()", x.pieces(), pieces);
-        due.is("points()", x.points(), points);
-    }
-
     private void promise11And12SomeAndEvery() {
         RealSigns x = new RealSigns();
         x.set(0, 1, 0, -2);
         x.set(1, 1, 0, 1);
         x.condition(0, 0);
-        about(x, 0, 0, 0, 0);
+        due.about(x, 0, 0, 0, 0);
         x.condition(0, 7);
-        about(x, 1, 1, 1, 0);
+        due.about(x, 1, 1, 1, 0);
         x.condition(1, 4);
-        about(x, 1, 1, 1, 0);
+        due.about(x, 1, 1, 1, 0);
         x.condition(1, 3);
-        about(x, 0, 0, 0, 0);
+        due.about(x, 0, 0, 0, 0);
         x.condition(2, 2);
-        about(x, 1, 1, 1, 0);
+        due.about(x, 1, 1, 1, 0);
         x.condition(2, 5);
-        about(x, 0, 0, 0, 0);
+        due.about(x, 0, 0, 0, 0);
         x.condition(0, 5);
-        about(x, 1, 0, 3, 0);
+        due.about(x, 1, 0, 3, 0);
     }
 
     private void promise13And14PiecesAndPoints() {
@@ -74,34 +43,34 @@ public final class QuestionsTest {
         x.set(1, 0, 1, 0);
         x.set(2, 1, 0, 0);
         x.condition(0, 2);
-        about(x, 1, 0, 2, 2);
+        due.about(x, 1, 0, 2, 2);
         x.condition(0, 3);
-        about(x, 1, 0, 1, 0);
+        due.about(x, 1, 0, 1, 0);
         x.condition(0, 6);
-        about(x, 1, 0, 2, 0);
+        due.about(x, 1, 0, 2, 0);
         x.condition(2, 2);
-        about(x, 1, 0, 1, 1);
+        due.about(x, 1, 0, 1, 1);
         x.join(1);
-        about(x, 1, 0, 3, 1);
+        due.about(x, 1, 0, 3, 1);
         x.condition(1, 1);
         x.condition(1, 4);
         x.join(1);
-        about(x, 1, 0, 2, 0);
+        due.about(x, 1, 0, 2, 0);
         x.discard();
         x.condition(1, 5);
         x.condition(0, 1);
         x.join(0);
-        about(x, 1, 0, 2, 0);
+        due.about(x, 1, 0, 2, 0);
         due.holds(x, 0, 0, 1, 0, 1, 0, 0);
     }
 
     private void wholeLine() {
         RealSigns x = new RealSigns();
         x.condition(3, 2);
-        about(x, 1, 1, 1, 0);
+        due.about(x, 1, 1, 1, 0);
         due.holds(x, 1);
         x.not();
-        about(x, 0, 0, 0, 0);
+        due.about(x, 0, 0, 0, 0);
         due.holds(x, 0);
     }
 
@@ -115,15 +84,15 @@ public final class QuestionsTest {
         x.join(1);
         x.join(1);
         x.join(1);
-        about(x, 1, 0, 8, 8);
+        due.about(x, 1, 0, 8, 8);
         due.holds(x, 0, 1, 0, 1, 0, 1, 0, 1, 0, 1, 0, 1, 0, 1, 0, 1, 0);
         x.not();
-        about(x, 1, 0, 9, 0);
+        due.about(x, 1, 0, 9, 0);
         due.holds(x, 1, 0, 1, 0, 1, 0, 1, 0, 1, 0, 1, 0, 1, 0, 1, 0, 1);
         x.condition(2, 7);
-        about(x, 1, 1, 1, 0);
+        due.about(x, 1, 1, 1, 0);
         x.condition(3, 2);
-        about(x, 1, 0, 2, 2);
+        due.about(x, 1, 0, 2, 2);
     }
 
     private void promise15Holds() {
@@ -131,9 +100,6 @@ public final class QuestionsTest {
         x.set(0, 1, -3, 2);
         x.condition(0, 6);
         due.holds(x, 1, 1, 0, 1, 1);
-        due.is("holds(MIN)", x.holds(Integer.MIN_VALUE), NONE);
-        due.is("holds(MAX)", x.holds(Integer.MAX_VALUE), NONE);
-        due.is("holds(32)", x.holds(32), NONE);
         x.condition(0, 1);
         due.holds(x, 0, 0, 1, 0, 0);
     }
@@ -154,12 +120,6 @@ public final class QuestionsTest {
         due.is("at(-33, 99)", x.at(-33, 99), 1);
         due.is("at(-33, 100)", x.at(-33, 100), 0);
         due.is("at(1, 3)", x.at(1, 3), 0);
-        for (int p : new int[] {Integer.MIN_VALUE, -101, 101, Integer.MAX_VALUE}) {
-            due.is("at(" + p + ", 1)", x.at(p, 1), BAD_ARG);
-        }
-        for (int q : new int[] {Integer.MIN_VALUE, -1, 0, 101, Integer.MAX_VALUE}) {
-            due.is("at(1, " + q + ")", x.at(1, q), BAD_ARG);
-        }
     }
 
     private void promise17Same() {
@@ -222,7 +182,7 @@ public final class QuestionsTest {
         due.is("join(0)", x.join(0), 1);
         due.holds(x, 0, 0, 0, 0, 0, 1, 1);
         x.set(0, 0, 0, -1);
-        about(x, 0, 0, 0, 0);
+        due.about(x, 0, 0, 0, 0);
     }
 
     private void questionsChangeNothing() {
@@ -232,7 +192,7 @@ public final class QuestionsTest {
         x.condition(0, 1);
         x.condition(1, 6);
         for (int n = 0; n < 20; n++) {
-            about(x, 1, 0, 1, 0);
+            due.about(x, 1, 0, 1, 0);
             due.is("same()", x.same(), 0);
             due.is("implies()", x.implies(), 0);
             due.is("at(1, 1)", x.at(1, 1), 1);
