@@ -377,6 +377,7 @@ public final class RealSigns {
         return cells;
     }
 
+    // not and join keep a step only if the stack has formulas enough for it, so n never falls short.
     private void takeSteps() {
         int n = 0;
         for (int i = 0; i < made; i++) {

@@ -23,10 +23,23 @@ public final class FaceTest {
                 Modifier.PUBLIC | Modifier.FINAL);
         methods(due);
         constants(due);
+        constructor(due);
+        nothingInherited(due);
+        due.end();
+    }
+
+    private static void constructor(Due due) {
         Constructor<?>[] constructors = RealSigns.class.getDeclaredConstructors();
         due.is("constructors", constructors.length, 1);
         due.is("constructor is public", constructors[0].getModifiers(), Modifier.PUBLIC);
-        due.end();
+        due.is("constructor's parameters", constructors[0].getParameterCount(), 0);
+    }
+
+    private static void nothingInherited(Due due) {
+        due.is("extends Object alone", RealSigns.class.getSuperclass() == Object.class ? 1 : 0, 1);
+        due.is("interfaces", RealSigns.class.getInterfaces().length, 0);
+        due.is("nested classes", RealSigns.class.getDeclaredClasses().length, 0);
+        due.is("package", RealSigns.class.getPackageName().length(), 0);
     }
 
     private static void methods(Due due) {
@@ -40,6 +53,7 @@ public final class FaceTest {
             due.is(name + " is in the document", METHODS.contains(name) ? 1 : 0, 1);
             due.is(name + " is public alone", m.getModifiers(), Modifier.PUBLIC);
             due.is(name + " answers int", m.getReturnType() == int.class ? 1 : 0, 1);
+            due.is(name + " throws", m.getExceptionTypes().length, 0);
             for (Class<?> type : m.getParameterTypes()) {
                 due.is(name + " takes int", type == int.class ? 1 : 0, 1);
             }
@@ -53,6 +67,9 @@ public final class FaceTest {
             if (!Modifier.isPrivate(f.getModifiers())) {
                 count++;
                 due.is(f.getName() + " is in the document", CONSTANTS.contains(f.getName()) ? 1 : 0, 1);
+                due.is(f.getName() + " is a public constant", f.getModifiers(),
+                        Modifier.PUBLIC | Modifier.STATIC | Modifier.FINAL);
+                due.is(f.getName() + " is an int", f.getType() == int.class ? 1 : 0, 1);
             }
         }
         due.is("constants", count, CONSTANTS.size());
